@@ -27,6 +27,8 @@ public final class ReplayDesk {
     private static final int ROW = 32;
     private static final int HEARD = 8;
     private static final int HEARD_MASK = 7;
+    private static final int ALL_ROWS = MOST_MOMENTS * ROW;
+    private static final int ALL_HEARD = MOST_MOMENTS * HEARD;
 
     private final int[] operations = new int[MOST_INSTRUCTIONS];
     private final int[] firsts = new int[MOST_INSTRUCTIONS];
@@ -39,12 +41,12 @@ public final class ReplayDesk {
 
     // A moment's row is numbered as peek numbers it: registers at 0 .. 3, memory at 16 .. 31.
     // The places between are never written, so peek and difference find 0 there.
-    private final int[] values = new int[MOST_MOMENTS * ROW];
+    private final int[] values = new int[ALL_ROWS];
 
     // Only the last eight numbers said can ever be asked for, so each moment holds them in a ring
     // in which the number said as the n-th (from 0) stands at the low three bits of n.
     private final int[] saidCounts = new int[MOST_MOMENTS];
-    private final int[] heard = new int[MOST_MOMENTS * HEARD];
+    private final int[] heard = new int[ALL_HEARD];
 
     public ReplayDesk() {
     }
@@ -211,11 +213,9 @@ public final class ReplayDesk {
     // Works in the rows of the moment being made: its number is free, so no kept moment is touched.
     private void runStretch(int made, int begin) {
         int position = begin;
-        int carriedOut = 0;
-        int end = endBefore(position, carriedOut);
-        while (end == NONE && carriedOut < MOST_IN_STRETCH) {
+        int end = endBefore(position, 0);
+        for (int carriedOut = 1; end == NONE && carriedOut <= MOST_IN_STRETCH; carriedOut++) {
             position = carryOut(made, position);
-            carriedOut++;
             end = endBefore(position, carriedOut);
         }
         kinds[made] = end;

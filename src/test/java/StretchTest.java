@@ -6,6 +6,7 @@ public final class StretchTest {
     public static void main(String[] args) {
         setAddSub();
         sameRegisterTwice();
+        loadAndStoreDoOneThing();
         memoryByLowBits();
         zeroAndJump();
         sayAndUnusedNumbers();
@@ -45,6 +46,18 @@ public final class StretchTest {
         Due.is("stored under its own low bits", 42, desk.peek(0, 26));
         Due.is("loaded over its own number", 42, desk.peek(0, 1));
         Due.is("a - a", 0, desk.peek(0, 2));
+    }
+
+    private static void loadAndStoreDoOneThing() {
+        ReplayDesk desk = Due.desk(
+            Due.row(Due.SET, 0, 5), Due.row(Due.SET, 1, 3), Due.row(Due.STORE, 0, 1), Due.row(Due.LOAD, 1, 1),
+            Due.row(Due.STORE, 2, 3), Due.row(Due.STOP, 0, 0));
+        desk.start();
+        Due.is("loaded", 5, desk.peek(0, 1));
+        Due.is("load leaves its cell", 5, desk.peek(0, 19));
+        Due.is("load writes no cell", 0, desk.peek(0, 21));
+        Due.is("store of 0 goes on at the next position", 5, desk.position(0));
+        Due.is("store of 0 writes 0", 0, desk.peek(0, 16));
     }
 
     private static void memoryByLowBits() {
